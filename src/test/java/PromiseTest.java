@@ -467,7 +467,8 @@ public final class PromiseTest {
         s.give(1, 5, 5, 1);
         due("13: from 5, to itself", s.fan(1, 5), 1);
         giveAll(s, 2);
-        due("13: to all", s.fan(2, 5), 6);
+        due("13: to all", s.fan(2, 0), 6);
+        due("13: to all from the last", s.fan(2, 5), 6);
         due("13: relation -1", s.fan(-1, 6), -1);
         due("13: relation 8", s.fan(8, 0), -1);
         due("13: x -1", s.fan(0, -1), -2);
