@@ -1,14 +1,22 @@
 /** Compares answers with those that are due and keeps count of the wrong ones. */
 final class Due {
     private static int wrong = 0;
+    private static String words = "";
 
     private Due() {
+    }
+
+    /** Runs the test of one sentence of the document; its words stand before every wrong answer. */
+    static void sentence(String ofTheDocument, Runnable test) {
+        words = "\"" + ofTheDocument + "\": ";
+        test.run();
+        words = "";
     }
 
     static void due(String what, long got, long want) {
         if (got != want) {
             wrong++;
-            System.out.println(what + ": answered " + got + ", due is " + want);
+            System.out.println(words + what + ": answered " + got + ", due is " + want);
         }
     }
 

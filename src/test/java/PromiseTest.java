@@ -1,7 +1,7 @@
 /** Each promise by hand: ordinary inputs, the edges that the document names, and wrong inputs. */
 public final class PromiseTest {
-    private static final int LEAST = Integer.MIN_VALUE;
-    private static final int GREATEST = Integer.MAX_VALUE;
+    private static final int LEAST = Build.LEAST;
+    private static final int GREATEST = Build.GREATEST;
 
     public static void main(String[] args) {
         newObject();
@@ -38,38 +38,6 @@ public final class PromiseTest {
         Due.due(what, got, want);
     }
 
-    /** Makes a rule with these plain body atoms; an atom -1 - a stands for a, negated. */
-    private static int make(StratifiedRules s, int head, int... atoms) {
-        s.blank();
-        for (int atom : atoms) {
-            if (atom < 0) {
-                s.body(-1 - atom, 1);
-            } else {
-                s.body(atom, 0);
-            }
-        }
-        return s.rule(head);
-    }
-
-    private static int not(int atom) {
-        return -1 - atom;
-    }
-
-    private static void giveAll(StratifiedRules s, int relation) {
-        for (int step = 0; step < 6; step++) {
-            s.chain(relation, 0, 8 * step + 6);
-        }
-    }
-
-    /** Rule 0: 1 from 0; rule 1: 1 from 1 and 0, so that 1 is what 0 reaches. */
-    private static StratifiedRules reach(int plan) {
-        StratifiedRules s = new StratifiedRules();
-        s.chain(0, 0, plan);
-        make(s, 101, 1);
-        make(s, 101, 102, 21);
-        return s;
-    }
-
     private static void newObject() {
         StratifiedRules s = new StratifiedRules();
         due("1: rules()", s.rules(), 0);
@@ -100,7 +68,7 @@ public final class PromiseTest {
         due("2: pair has an order", s.give(0, 1, 2, 2), 0);
         due("2: (2, 1) is another", s.given(0, 2, 1), 0);
         due("2: relation 1 is another", s.given(1, 1, 2), 0);
-        make(s, 45);
+        Build.make(s, 45);
         due("2: derived is not given before", s.give(0, 0, 1, 0), 0);
         due("2: derived still holds", s.holds(0, 0, 1), 1);
         due("2: derived, then given", s.give(0, 0, 1, 1), 0);
@@ -140,10 +108,10 @@ public final class PromiseTest {
         due("3: (5, 5)", s.given(2, 5, 5), 1);
         due("3: step 5 count 6", s.chain(7, 5, 46), 6);
         due("3: step 0 count 6", s.chain(7, 3, 6), 12);
-        make(s, 344);
+        Build.make(s, 344);
         due("3: derived ones do not count", s.chain(3, 1, 1), 1);
         due("3: derived ones hold", s.size(3), 2);
-        make(s, 410, 1);
+        Build.make(s, 410, 1);
         due("3: what follows", s.size(4), 5);
         s.chain(0, 5, 8 + 1);
         due("3: what follows then", s.size(4), 6);
@@ -212,9 +180,9 @@ public final class PromiseTest {
         due("5: empty body's head", s.holds(7, 5, 5), 1);
         due("5: empty body, one variable", s.rule(740), -4);
         due("5: empty body, another", s.rule(703), -4);
-        make(s, 300, 7);
+        Build.make(s, 300, 7);
         due("5: term 7 is thing 3", s.size(3), 0);
-        due("5: term 8 is thing 4", make(s, 300, 8), 3);
+        due("5: term 8 is thing 4", Build.make(s, 300, 8), 3);
         s.give(0, 1, 4, 1);
         due("5: with (1, 4) and (2, 4)", s.size(3), 2);
         due("5: (1, 1)", s.holds(3, 1, 1), 1);
@@ -226,39 +194,40 @@ public final class PromiseTest {
                 StratifiedRules s = new StratifiedRules();
                 int plain = atom / 2 <= head / 2 ? 0 : -3;
                 int negated = atom / 2 < head / 2 ? 0 : -3;
-                due("5: " + head + " from " + atom, make(s, 100 * head + 1, 100 * atom + 1), plain);
+                due("5: " + head + " from " + atom, Build.make(s, 100 * head + 1, 100 * atom + 1), plain);
                 StratifiedRules t = new StratifiedRules();
-                due("5: " + head + " from not " + atom, make(t, 100 * head + 44, not(100 * atom + 44)), negated);
+                due("5: " + head + " from not " + atom,
+                        Build.make(t, 100 * head + 44, Build.not(100 * atom + 44)), negated);
             }
         }
         StratifiedRules s = new StratifiedRules();
-        due("5: third atom too high", make(s, 301, 1, 101, 401), -3);
+        due("5: third atom too high", Build.make(s, 301, 1, 101, 401), -3);
         due("5: draft stays after -3", s.blank(), 3);
-        due("5: layer before variables", make(s, 23, 201), -3);
-        due("5: negated of the same layer, variables loose", make(s, 223, not(301)), -3);
+        due("5: layer before variables", Build.make(s, 23, 201), -3);
+        due("5: negated of the same layer, variables loose", Build.make(s, 223, Build.not(301)), -3);
     }
 
     private static void ruleVariables() {
         StratifiedRules s = new StratifiedRules();
-        due("5: variable only in a negated atom", make(s, 244, not(4)), -4);
+        due("5: variable only in a negated atom", Build.make(s, 244, Build.not(4)), -4);
         due("5: draft stays after -4", s.blank(), 1);
-        due("5: head's variable only in a negated atom", make(s, 240, not(40)), -4);
-        due("5: second term loose", make(s, 203, 1), -4);
-        due("5: first term loose", make(s, 230, 1), -4);
-        due("5: negated atom's second term loose", make(s, 201, 1, not(13)), -4);
-        due("5: negated atom's first term loose", make(s, 201, 1, not(31)), -4);
-        due("5: plain atom behind the negated one", make(s, 201, not(110), 1), 0);
-        due("5: over two plain atoms", make(s, 203, 1, 23, not(12)), 1);
-        due("5: all things", make(s, 249, not(94)), 2);
-        due("5: variable of the body alone", make(s, 244, 33), 3);
+        due("5: head's variable only in a negated atom", Build.make(s, 240, Build.not(40)), -4);
+        due("5: second term loose", Build.make(s, 203, 1), -4);
+        due("5: first term loose", Build.make(s, 230, 1), -4);
+        due("5: negated atom's second term loose", Build.make(s, 201, 1, Build.not(13)), -4);
+        due("5: negated atom's first term loose", Build.make(s, 201, 1, Build.not(31)), -4);
+        due("5: plain atom behind the negated one", Build.make(s, 201, Build.not(110), 1), 0);
+        due("5: over two plain atoms", Build.make(s, 203, 1, 23, Build.not(12)), 1);
+        due("5: all things", Build.make(s, 249, Build.not(94)), 2);
+        due("5: variable of the body alone", Build.make(s, 244, 33), 3);
     }
 
     private static void ruleList() {
         StratifiedRules s = new StratifiedRules();
         for (int i = 0; i < 14; i++) {
-            due("5: number", make(s, 44 + i % 6), i);
+            due("5: number", Build.make(s, 44 + i % 6), i);
         }
-        due("5: fifteenth", make(s, 44, 701), -2);
+        due("5: fifteenth", Build.make(s, 44, 701), -2);
         due("5: draft stays after -2", s.blank(), 1);
         due("5: bad head before the full list", s.rule(800), -1);
         due("5: full list before loose variable", s.rule(0), -2);
@@ -281,7 +250,7 @@ public final class PromiseTest {
     }
 
     private static void drop() {
-        StratifiedRules s = reach(12);
+        StratifiedRules s = Build.reach(12);
         due("7: -1", s.drop(-1), -1);
         due("7: 2", s.drop(2), -1);
         due("7: least", s.drop(LEAST), -1);
@@ -300,9 +269,9 @@ public final class PromiseTest {
     private static void dropTakesTheWholeRuleAlong() {
         StratifiedRules s = new StratifiedRules();
         s.chain(0, 0, 12);
-        make(s, 144);
-        make(s, 201, 1, 12, not(2));
-        make(s, 303, 3);
+        Build.make(s, 144);
+        Build.make(s, 201, 1, 12, Build.not(2));
+        Build.make(s, 303, 3);
         due("7: first of three", s.drop(0), 2);
         due("7: rule 1 is rule 0", s.ways(0), 3);
         due("7: its head", s.supports(0, 6 * 2 + 3), 1);
@@ -314,7 +283,7 @@ public final class PromiseTest {
         due("7: the others' facts go", s.size(2), 0);
         StratifiedRules full = new StratifiedRules();
         for (int i = 0; i < 14; i++) {
-            make(full, 100 * (i / 6 + 2) + 44 + i % 6, 44);
+            Build.make(full, 100 * (i / 6 + 2) + 44 + i % 6, 44);
         }
         full.give(0, 0, 0, 1);
         due("7: out of a full list", full.drop(3), 13);
@@ -342,7 +311,7 @@ public final class PromiseTest {
     private static void given() {
         StratifiedRules s = new StratifiedRules();
         s.give(3, 2, 5, 1);
-        make(s, 401, 301);
+        Build.make(s, 401, 301);
         due("9: given", s.given(3, 2, 5), 1);
         due("9: not given", s.given(3, 5, 2), 0);
         due("9: derived only", s.given(4, 2, 5), 0);
@@ -360,7 +329,7 @@ public final class PromiseTest {
     }
 
     private static void holds() {
-        StratifiedRules s = reach(12);
+        StratifiedRules s = Build.reach(12);
         for (int x = 0; x < 6; x++) {
             for (int y = 0; y < 6; y++) {
                 due("10: reach " + x + " " + y, s.holds(1, x, y), x < y && y < 5 ? 1 : 0);
@@ -371,8 +340,8 @@ public final class PromiseTest {
         due("10: before the gap", s.holds(1, 0, 2), 1);
         due("10: given holds", s.holds(0, 0, 1), 1);
         StratifiedRules circle = new StratifiedRules();
-        make(circle, 1, 101);
-        make(circle, 101, 1);
+        Build.make(circle, 1, 101);
+        Build.make(circle, 101, 1);
         due("10: a circle founds nothing", circle.holds(0, 0, 0), 0);
         circle.give(1, 4, 2, 1);
         due("10: it carries what is given", circle.holds(0, 4, 2), 1);
@@ -383,9 +352,9 @@ public final class PromiseTest {
 
     private static void holdsThroughNegation() {
         StratifiedRules s = new StratifiedRules();
-        make(s, 601, 1, not(401));
-        make(s, 401, 1, not(201));
-        make(s, 201, 1, 101);
+        Build.make(s, 601, 1, Build.not(401));
+        Build.make(s, 401, 1, Build.not(201));
+        Build.make(s, 201, 1, 101);
         s.chain(0, 0, 6);
         due("10: layer 2 by negation", s.size(4), 6);
         due("10: layer 3 by negation", s.size(6), 0);
@@ -394,7 +363,7 @@ public final class PromiseTest {
         due("10: layer 2 loses one", s.holds(4, 3, 3), 0);
         due("10: layer 3 wins it", s.holds(6, 3, 3), 1);
         due("10: and no other", s.size(6), 1);
-        make(s, 701, 1, not(101));
+        Build.make(s, 701, 1, Build.not(101));
         due("10: negation over three layers", s.size(7), 5);
         s.give(4, 3, 3, 1);
         due("10: given though no rule derives it", s.holds(4, 3, 3), 1);
@@ -411,7 +380,7 @@ public final class PromiseTest {
                 int[] rule = bodies[backward == 1 ? bodies.length - 1 - i : i];
                 int[] atoms = new int[rule.length - 1];
                 System.arraycopy(rule, 1, atoms, 0, atoms.length);
-                due("10: counting rule", make(s, rule[0], atoms), i);
+                due("10: counting rule", Build.make(s, rule[0], atoms), i);
             }
             due("10: counted through relation 2", s.size(2), 36);
             due("10: counted through relation 3", s.size(3), 36);
@@ -427,13 +396,13 @@ public final class PromiseTest {
         due("11: 8", s.size(8), -1);
         due("11: least", s.size(LEAST), -1);
         due("11: greatest", s.size(GREATEST), -1);
-        giveAll(s, 7);
+        Build.giveAll(s, 7);
         due("11: all", s.size(7), 36);
         s.give(7, 0, 0, 0);
         due("11: all but one", s.size(7), 35);
         s.give(0, 5, 5, 1);
-        make(s, 144, 99);
-        make(s, 145, 99);
+        Build.make(s, 144, 99);
+        Build.make(s, 145, 99);
         s.give(1, 0, 0, 1);
         due("11: given and derived counts once", s.size(1), 2);
     }
@@ -443,7 +412,7 @@ public final class PromiseTest {
         s.give(5, 0, 0, 1);
         s.give(5, 1, 3, 1);
         s.give(5, 5, 5, 1);
-        make(s, 554);
+        Build.make(s, 554);
         due("12: least", s.next(5, LEAST), 0);
         due("12: -1", s.next(5, -1), 0);
         due("12: 0", s.next(5, 0), 6);
@@ -459,14 +428,14 @@ public final class PromiseTest {
     }
 
     private static void fan() {
-        StratifiedRules s = reach(12);
+        StratifiedRules s = Build.reach(12);
         due("13: from 0", s.fan(1, 0), 4);
         due("13: from 3", s.fan(1, 3), 1);
         due("13: from 4", s.fan(1, 4), 0);
         due("13: from 5", s.fan(1, 5), 0);
         s.give(1, 5, 5, 1);
         due("13: from 5, to itself", s.fan(1, 5), 1);
-        giveAll(s, 2);
+        Build.giveAll(s, 2);
         due("13: to all", s.fan(2, 0), 6);
         due("13: to all from the last", s.fan(2, 5), 6);
         due("13: relation -1", s.fan(-1, 6), -1);
@@ -478,16 +447,16 @@ public final class PromiseTest {
 
     private static void ways() {
         StratifiedRules s = new StratifiedRules();
-        giveAll(s, 0);
-        make(s, 244);
-        make(s, 244, 33);
-        make(s, 244, 23);
-        make(s, 244, 1, 23);
-        make(s, 244, 1, 12);
-        make(s, 244, 99, 45);
-        make(s, 244, 1, not(101));
-        make(s, 244, not(44));
-        make(s, 244, 1, not(111), 2);
+        Build.giveAll(s, 0);
+        Build.make(s, 244);
+        Build.make(s, 244, 33);
+        Build.make(s, 244, 23);
+        Build.make(s, 244, 1, 23);
+        Build.make(s, 244, 1, 12);
+        Build.make(s, 244, 99, 45);
+        Build.make(s, 244, 1, Build.not(101));
+        Build.make(s, 244, Build.not(44));
+        Build.make(s, 244, 1, Build.not(111), 2);
         due("14: no variables, no body", s.ways(0), 1);
         due("14: one variable twice", s.ways(1), 6);
         due("14: variables 2 and 3", s.ways(2), 36);
@@ -506,20 +475,20 @@ public final class PromiseTest {
         due("14: 9", s.ways(9), -1);
         due("14: least", s.ways(LEAST), -1);
         due("14: greatest", s.ways(GREATEST), -1);
-        StratifiedRules own = reach(12);
+        StratifiedRules own = Build.reach(12);
         due("14: over what the rule derives itself", own.ways(1), 6);
     }
 
     private static void supports() {
-        StratifiedRules s = reach(12);
+        StratifiedRules s = Build.reach(12);
         due("15: (0, 1) by rule 0", s.supports(0, 1), 1);
         due("15: (0, 2) not by rule 0", s.supports(0, 2), 0);
         due("15: (0, 2) by rule 1", s.supports(1, 2), 1);
         due("15: (0, 1) not by rule 1", s.supports(1, 1), 0);
         due("15: given alone is no support", s.give(1, 5, 5, 1) + s.supports(0, 35), 0);
-        make(s, 299, 1, not(101));
+        Build.make(s, 299, 1, Build.not(101));
         due("15: negated", s.supports(2, 35), 0);
-        make(s, 299, 1, not(110));
+        Build.make(s, 299, 1, Build.not(110));
         due("15: last fact", s.supports(3, 35), 1);
         due("15: first fact", s.supports(3, 0), 0);
         due("15: rule -1", s.supports(-1, 36), -1);
@@ -533,19 +502,19 @@ public final class PromiseTest {
     }
 
     private static void weight() {
-        StratifiedRules s = reach(12);
+        StratifiedRules s = Build.reach(12);
         due("16: founds all", s.weight(0), 10);
         due("16: founds the far ones", s.weight(1), 6);
-        make(s, 201, 2, 13, not(101));
+        Build.make(s, 201, 2, 13, Build.not(101));
         due("16: nothing rests on it", s.weight(2), s.size(2));
         due("16: goes both ways", s.weight(0), 16);
-        make(s, 301, 1, not(101));
+        Build.make(s, 301, 1, Build.not(101));
         due("16: what holds without it counts too", s.weight(0), 20);
-        make(s, 101, 1);
+        Build.make(s, 101, 1);
         due("16: two alike weigh nothing", s.weight(0) + s.weight(4), 0);
         due("16: the first two stay", s.size(1), 10);
         StratifiedRules t = new StratifiedRules();
-        make(t, 44);
+        Build.make(t, 44);
         t.give(0, 0, 0, 1);
         due("16: given too", t.weight(0), 0);
         t.give(0, 0, 0, 0);
@@ -557,7 +526,7 @@ public final class PromiseTest {
     }
 
     private static void within() {
-        StratifiedRules s = reach(12);
+        StratifiedRules s = Build.reach(12);
         due("17: 0 in 1", s.within(0, 1), 1);
         due("17: 1 in 0", s.within(1, 0), 0);
         due("17: in itself", s.within(1, 1), 1);
@@ -574,7 +543,7 @@ public final class PromiseTest {
     }
 
     private static void questionsChangeNothing() {
-        StratifiedRules s = reach(12);
+        StratifiedRules s = Build.reach(12);
         s.body(1, 0);
         for (int i = 0; i < 2; i++) {
             due("question: weight", s.weight(0), 10);
@@ -590,7 +559,7 @@ public final class PromiseTest {
     }
 
     private static void objectsAreApart() {
-        StratifiedRules s = reach(12);
+        StratifiedRules s = Build.reach(12);
         StratifiedRules t = new StratifiedRules();
         s.body(1, 0);
         due("two objects: rules", t.rules(), 0);
