@@ -22,10 +22,14 @@ public final class QuestionsEdgeTest {
                 QuestionsEdgeTest::waysByNumberOfVariables);
         Due.sentence("14: make all its plain body atoms hold and no negated one",
                 QuestionsEdgeTest::waysFromNoneToAll);
+        Due.sentence("14: plain body atoms hold and no negated one (derived, not given)",
+                QuestionsEdgeTest::waysOverDerivedFacts);
         Due.sentence("14: -1 if there is no such rule", QuestionsEdgeTest::waysNoSuchRule);
         Due.sentence("15: its head the fact with the number 6 * x + y", QuestionsEdgeTest::supportsItsHeadAlone);
         Due.sentence("15: some way makes all its plain body atoms hold and no negated one",
                 QuestionsEdgeTest::supportsWhileItsBodyIsMet);
+        Due.sentence("15: plain body atoms hold and no negated one (derived, not given)",
+                QuestionsEdgeTest::supportsOverDerivedFacts);
         Due.sentence("15: -1 if there is no such rule", QuestionsEdgeTest::supportsNoSuchRule);
         Due.sentence("15: -2 if fact is not in 0 .. 35", QuestionsEdgeTest::supportsBadFact);
         Due.sentence("16: facts that hold now would not hold without the rule",
@@ -269,6 +273,18 @@ public final class QuestionsEdgeTest {
         due("plain alone", s.ways(0), 36);
     }
 
+    private static void waysOverDerivedFacts() {
+        StratifiedRules s = Build.reach(8 + 4);
+        Build.make(s, 244, 101);
+        Build.make(s, 201, 2, 31, Build.not(101));
+        due("over the rule's own facts", s.ways(1), 6);
+        due("plain", s.ways(2), 10);
+        due("negated", s.ways(3), 6);
+        s.drop(0);
+        due("plain, when they are gone", s.ways(1), 0);
+        due("negated, when they are gone", s.ways(2), 16);
+    }
+
     private static void waysNoSuchRule() {
         for (int length = 0; length <= 14; length++) {
             StratifiedRules s = Build.ruleList(length);
@@ -307,6 +323,18 @@ public final class QuestionsEdgeTest {
         due("the negated one holds", s.supports(0, 35), 0);
         s.give(2, 5, 5, 1);
         due("the head is given", s.supports(0, 35), 0);
+    }
+
+    private static void supportsOverDerivedFacts() {
+        StratifiedRules s = Build.reach(8 + 4);
+        Build.make(s, 299, 148);
+        Build.make(s, 388, Build.not(148));
+        due("over the rule's own facts", s.supports(1, 4), 1);
+        due("plain", s.supports(2, 35), 1);
+        due("negated", s.supports(3, 28), 0);
+        s.drop(0);
+        due("plain, when it is gone", s.supports(1, 35), 0);
+        due("negated, when it is gone", s.supports(2, 28), 1);
     }
 
     private static void supportsNoSuchRule() {

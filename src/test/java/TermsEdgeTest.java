@@ -1,3 +1,5 @@
+import java.util.Arrays;
+
 /** The boundary cases that the document's first sections name, one test to a sentence. */
 public final class TermsEdgeTest {
     public static void main(String[] args) {
@@ -245,18 +247,22 @@ public final class TermsEdgeTest {
         due("and goes when it is taken back", s.size(0) + s.size(1), 0);
     }
 
-    /** The rules count through the 36 facts of relation 3, then those of 2, each from the one before alone. */
+    /** The rules, in either order, count through the 36 facts of relation 3, then those of 2, one from another. */
     private static void allFactsOfALayerOneByOne() {
-        StratifiedRules s = new StratifiedRules();
-        s.chain(0, 0, 8 + 5);
-        Build.make(s, 244, 399);
-        Build.make(s, 204, 219, 10);
-        Build.make(s, 202, 201, 12);
-        Build.make(s, 304, 319, 10);
-        Build.make(s, 302, 301, 12);
-        due("nothing to begin with", s.size(2) + s.size(3), 0);
-        s.give(3, 0, 0, 1);
-        due("all of the layer", s.size(2) + s.size(3), 72);
+        int[][] rules = {{244, 399}, {204, 219, 10}, {202, 201, 12}, {304, 319, 10}, {302, 301, 12}};
+        for (int order = 0; order < 2; order++) {
+            StratifiedRules s = new StratifiedRules();
+            s.chain(0, 0, 8 + 5);
+            for (int i = 0; i < rules.length; i++) {
+                int[] rule = rules[order == 0 ? i : rules.length - 1 - i];
+                Build.make(s, rule[0], Arrays.copyOfRange(rule, 1, rule.length));
+            }
+            due("nothing to begin with", s.size(2) + s.size(3), 0);
+            s.give(3, 0, 0, 1);
+            due("all of the layer", s.size(2) + s.size(3), 72);
+            s.give(0, 4, 5, 0);
+            due("up to a gap", s.size(2) + s.size(3), 5);
+        }
     }
 
     private static void givenFactsHoldInEveryLayer() {
